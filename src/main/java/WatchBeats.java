@@ -463,22 +463,17 @@ public final class WatchBeats {
     }
 
     private int evenest() {
-        int best = -MOST_OFFSET;
-        int bestBeats = -1;
-        int bestUneven = 0;
-        int bestFar = 0;
+        int best = now.balance.offset;
+        long bestScore = NO;
         for (int offset = -MOST_OFFSET; offset <= MOST_OFFSET; offset++) {
             listenWith(OFFSET, offset);
-            int beats = heardAhead.beats;
             int uneven = Math.abs(heardAhead.uneven());
             int far = Math.abs(offset - now.balance.offset);
-            boolean isBetter = beats != bestBeats ? beats > bestBeats
-                : uneven != bestUneven ? uneven < bestUneven : far < bestFar;
-            if (isBetter) {
+            // Both are below 1000, so that each counts only where what goes ahead of it is alike.
+            long score = (heardAhead.beats * 1000L - uneven) * 1000 - far;
+            if (score > bestScore) {
                 best = offset;
-                bestBeats = beats;
-                bestUneven = uneven;
-                bestFar = far;
+                bestScore = score;
             }
         }
         return best;
@@ -639,9 +634,7 @@ public final class WatchBeats {
                 doPush(pushes.whats[done], pushes.sizes[done]);
                 done++;
             }
-            if (done > 0) {
-                pushes.removeFirst(done);
-            }
+            pushes.removeFirst(done);
         }
 
         private void doPush(int what, int n) {
@@ -707,7 +700,9 @@ public final class WatchBeats {
             }
             int place = waiting;
             while (place > 0 && times[place - 1] > time) {
-                move(place - 1, place);
+                times[place] = times[place - 1];
+                whats[place] = whats[place - 1];
+                sizes[place] = sizes[place - 1];
                 place--;
             }
             times[place] = time;
@@ -717,18 +712,15 @@ public final class WatchBeats {
         }
 
         void removeFirst(int many) {
-            for (int i = many; i < waiting; i++) {
-                move(i, i - many);
+            if (many < 1 || many > waiting) {
+                return;
+            }
+            for (int i = many; i < waiting && i < MOST_PUSHES; i++) {
+                times[i - many] = times[i];
+                whats[i - many] = whats[i];
+                sizes[i - many] = sizes[i];
             }
             waiting -= many;
-        }
-
-        private void move(int from, int to) {
-            if (isBetween(from, 0, MOST_PUSHES - 1) && isBetween(to, 0, MOST_PUSHES - 1)) {
-                times[to] = times[from];
-                whats[to] = whats[from];
-                sizes[to] = sizes[from];
-            }
         }
 
         void copy(Pushes other) {
@@ -838,7 +830,8 @@ public final class WatchBeats {
 
         int uneven() {
             int uneven = 0;
-            for (int k = 0; k + 1 < gaps(); k += 2) {
+            int gaps = gaps();
+            for (int k = 0; k + 1 < gaps; k += 2) {
                 uneven += gapAt(k) - gapAt(k + 1);
             }
             return uneven;
@@ -846,7 +839,8 @@ public final class WatchBeats {
 
         /** Which gap is the k-th longest. */
         int longestGap(int k) {
-            for (int gap = 0; gap < gaps(); gap++) {
+            int gaps = gaps();
+            for (int gap = 0; gap < gaps; gap++) {
                 if (gapsAheadOf(gap) == k) {
                     return gap;
                 }
@@ -857,7 +851,8 @@ public final class WatchBeats {
         private int gapsAheadOf(int gap) {
             int length = gapAt(gap);
             int many = 0;
-            for (int i = 0; i < gaps(); i++) {
+            int gaps = gaps();
+            for (int i = 0; i < gaps; i++) {
                 int other = gapAt(i);
                 if (other > length || other == length && i < gap) {
                     many++;

@@ -195,6 +195,8 @@ public final class AheadTest {
         }
         Check.due("longest of what 2", x.longest(0, 2), WatchBeats.NONE);
         Check.due("what goes ahead of k", x.longest(9, 2), WatchBeats.NONE);
+        Check.due("longest, the first thing asked", Watches.scripted().longest(0, 0), 4);
+        Check.due("gap, the first thing asked", Watches.scripted().gap(3), 4);
         WatchBeats still = Watches.idle();
         Check.due("no gap", still.gap(0), -5);
         Check.due("no longest", still.longest(0, 1), -5);

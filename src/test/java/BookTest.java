@@ -35,6 +35,7 @@ public final class BookTest {
         x.book(0, 0);
         x.book(2, 2);
         Check.due("all are so", x.looked(), -5);
+        Check.due("looked, the first thing asked", booked().looked(), 1);
         x.book(3, 5);
         Check.due("the fourth isn't", x.looked(), 3);
         x.book(4, 7);
@@ -48,6 +49,16 @@ public final class BookTest {
         WatchBeats still = Watches.idle();
         still.book(0, 0);
         Check.due("no beat is heard", still.looked(), 0);
+    }
+
+    /** No BEAT is 0 TICKS from now, as in a row that never came. */
+    private static WatchBeats booked() {
+        WatchBeats x = Watches.scripted();
+        x.go(5);
+        x.book(0, 3);
+        Check.due("rows that didn't come aren't looked at", x.looked(), -5);
+        x.book(0, 4);
+        return x;
     }
 
     private static WatchBeats withRow(int size, int place, int... items) {

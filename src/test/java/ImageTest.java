@@ -68,11 +68,14 @@ public final class ImageTest {
         x.book(4, 8);
         x.image();
         x.see(-1, 0);
-        x.see(0, 1);
+        x.see(8, 1);
         x.book(-1, 0);
-        x.book(4, 9);
-        Check.due("another is seen", x.fits(0), 0);
+        x.book(3, 9);
+        Check.holds("another is seen", x.fits(0) < 32);
         Check.due("another stands in the book", x.looked(), 0);
+        x.undo();
+        x.go(1);
+        Check.due("what was seen is so no more", x.fits(0), 0);
         x.undo();
         Check.due("what was seen", x.fits(0), 32);
         Check.due("what stood in the book", x.looked(), -5);

@@ -100,7 +100,12 @@ public final class SeenTest {
         oddsDue("none is sure", x, 0, 1, 1);
         oddsDue("without force", x, 1, 0, 1);
         x.set(5, 1);
-        oddsDue("any SPEED but 0 and those that go down to the bang and stay", x, 1, byHand(x, 1), 11);
+        // A push by 20 makes the SPEEDS to 0, 4, .. 40, of which a DRAG of 9 holds 0, 4 and 8.
+        x.set(5, 1);
+        x.set(3, 9);
+        x.push(0, 0, 20);
+        oddsDue("eight of eleven", x, 1, 8, 11);
+        oddsDue("they rest then", x, 2, 0, 1);
         WatchBeats y = Watches.lively();
         y.push(3, 0, 50);
         for (int n = 0; n <= 99; n += 3) {
@@ -108,12 +113,6 @@ public final class SeenTest {
             boolean whole = likely % 11 == 0;
             oddsDue("lively", y, n, whole ? likely / 11 : likely, whole ? 1 : 11);
         }
-        // A push by 20 makes SPEEDS -20, -16, .. 20 to 0, 4, .. 40: all but the first have a beat.
-        WatchBeats z = Watches.idle();
-        z.set(5, 1);
-        z.set(3, 9);
-        z.push(0, 0, 20);
-        oddsDue("ten", z, 1, byHand(z, 1), 11);
         for (int n : new int[] {-1, 100, Integer.MIN_VALUE, Integer.MAX_VALUE}) {
             Check.due("odds of no such n", y.odds(n, 0), Watches.NO);
         }

@@ -32,11 +32,13 @@ public final class TapeTest {
             Check.due("its last item", x.peek(tape, 59), 0);
             Check.due("behind its last item", x.peek(tape, 60), Watches.NO);
         }
+        x.item(0, 0, 6);
         x.item(0, 59, 7);
         Check.due("refused, it stays", x.tape(0, 0, 61), WatchBeats.BAD);
         Check.due("refused, it stays", x.peek(0, 59), 7);
         Check.due("anew", x.tape(0, 3, 60), 1);
-        Check.due("all 0", x.peek(0, 59), 0);
+        Check.due("all 0, the first", x.peek(0, 0), 0);
+        Check.due("all 0, the last", x.peek(0, 59), 0);
         Check.due("an empty row", x.tape(0, 0, 0), 1);
         Check.due("no place in it", x.item(0, 0, 1), PLACE);
         for (int n : new int[] {0, 61, -1, Integer.MIN_VALUE}) {
