@@ -152,7 +152,21 @@ public final class AheadTest {
         Check.due("a push makes all OFFSETS alike", pushed.beat(3), 11);
         WatchBeats once = Watches.scripted();
         Check.due("evenest of the script", once.beat(3), evenestByHand(once, 0));
+        Check.due("an OFFSET of 21 isn't tried", movedOnce(21, 1).beat(3), 5);
+        Check.due("an OFFSET of 20 is", movedOnce(20, 1).beat(3), 20);
+        Check.due("an OFFSET of -21 isn't tried", movedOnce(-22, 2).beat(3), 5);
+        Check.due("an OFFSET of -20 is", movedOnce(-21, 2).beat(3), -20);
         promise15EvenestLesser();
+    }
+
+    private static WatchBeats movedOnce(int angle, int by) {
+        WatchBeats x = Watches.idle();
+        x.set(0, angle);
+        x.set(1, by + 9);
+        x.set(3, 9);
+        x.set(4, 5);
+        x.set(5, 1);
+        return x;
     }
 
     /** From -2 to 0, to -2, to 2, to 0, to 2: three even beats by OFFSETS -1 and 1 alone. */
