@@ -1,16 +1,20 @@
-/** Promises 12 to 17: what lies ahead, beats heard and the gaps between them. */
+import java.util.function.Supplier;
+
+/** Promises 12 and 13, and that what is asked changes nothing. */
 public final class AheadTest {
     private static final int[] TOLD_AHEAD = {0, 1, 5, 9, 10, 7};
-    private static final int[] NO_NUMBERS = {Integer.MIN_VALUE, -1};
 
     public static void main(String[] args) {
-        promise12And13();
-        promise14();
-        promise15();
-        promise15Evenest();
-        promise15EvenestTies();
-        promise16And17();
-        askedChangesNothing();
+        ticksTaken();
+        ticksRefused();
+        whatRefused();
+        energyTicksRefused();
+        noTickAtZero();
+        beyondTheClock();
+        pushesAsTheyWait();
+        forceWearsInThought();
+        bangsAndBeatsInThought();
+        asked();
         Check.end();
     }
 
@@ -24,229 +28,178 @@ public final class AheadTest {
         return x;
     }
 
-    private static void promise12And13() {
-        for (int n = 0; n <= 400; n += 7) {
-            WatchBeats x = pushed();
-            WatchBeats went = pushed();
-            if (n > 0) {
-                went.go(n);
-            }
-            for (int what = 0; what < TOLD_AHEAD.length; what++) {
-                Check.due("ahead(" + n + ", " + what + ")", x.ahead(n, what), went.told(TOLD_AHEAD[what]));
-            }
-            Check.due("energyAt(" + n + ")", x.energyAt(n), went.energy(4));
+    private static void asGone(String when, Supplier<WatchBeats> watch, int n) {
+        WatchBeats went = watch.get();
+        if (n > 0) {
+            Check.holds("so many TICKS go by truly", went.go(n) >= 0);
         }
-        WatchBeats x = pushed();
-        WatchBeats went = pushed();
-        went.go(400);
-        Check.due("ahead(400, 0)", x.ahead(400, 0), went.told(0));
-        for (int n : new int[] {-1, 401, Integer.MIN_VALUE, Integer.MAX_VALUE}) {
-            Check.due("ahead of no such n", x.ahead(n, 0), -1000);
-            Check.due("energyAt of no such n", x.energyAt(n), Watches.NO);
+        WatchBeats x = watch.get();
+        for (int what = 0; what < TOLD_AHEAD.length; what++) {
+            Check.due(when + "ahead(" + n + ", " + what + ")", x.ahead(n, what), went.told(TOLD_AHEAD[what]));
         }
-        for (int what : new int[] {-1, 6, Integer.MIN_VALUE, Integer.MAX_VALUE}) {
-            Check.due("ahead of no such what", x.ahead(0, what), -1000);
-        }
-        WatchBeats banging = new WatchBeats();
-        banging.set(1, 400);
-        Check.due("bangs ahead", banging.ahead(1, 4), 1);
-        Check.due("beats ahead", banging.ahead(1, 3), 1);
-        Check.due("pallets ahead", banging.ahead(1, 5), 1);
-        Check.due("no bang now", banging.ahead(0, 4), 0);
+        Check.due(when + "energyAt(" + n + ")", x.energyAt(n), went.energy(4));
     }
 
-    private static void promise14() {
-        WatchBeats x = Watches.scripted();
-        int[] beats = Watches.SCRIPTED_BEATS;
-        for (int k = 0; k < beats.length; k++) {
-            Check.due("heard(" + k + ")", x.heard(k), beats[k]);
+    private static void ticksTaken() {
+        Check.sentence("2", "n TICKS (0 .. 400) in thought go on from now");
+        for (int n : Values.atBounds(0, 400)) {
+            asGone("", AheadTest::pushed, n);
+            asGone("new: ", Start.NEW::watch, n);
+            asGone("busy: ", Start.BUSY::watch, n);
+            asGone("full: ", Start.FULL::watch, n);
         }
-        Check.due("heard behind the last", x.heard(5), -5);
-        Check.due("heard far behind the last", x.heard(Integer.MAX_VALUE), -5);
-        for (int k : NO_NUMBERS) {
-            Check.due("heard of no such k", x.heard(k), WatchBeats.NONE);
-        }
-        x.go(3);
-        Check.due("heard is told from now on", x.heard(0), 1);
-        Check.due("heard is told from now on", x.heard(1), 5);
-        Check.due("heard is told from now on", x.heard(2), -5);
-        // The watch moves by 1 a tick over 400 ticks: the last tick that is heard is the 400th.
-        WatchBeats far = Watches.idle();
-        far.push(399, 0, 1);
-        far.set(5, 1);
-        Check.due("a beat in the 400th tick", far.heard(0), 399);
-        WatchBeats farther = Watches.idle();
-        farther.push(400, 0, 1);
-        farther.set(5, 1);
-        Check.due("none in the 401st tick", farther.heard(0), -5);
-    }
-
-    private static void beatDue(String when, WatchBeats x, int... want) {
-        int[] whats = {0, 1, 2, 4};
-        for (int i = 0; i < whats.length; i++) {
-            Check.due(when + ": beat(" + whats[i] + ")", x.beat(whats[i]), want[i]);
+        for (int n = 2; n < 399; n += 6) {
+            asGone("", AheadTest::pushed, n);
         }
     }
 
-    private static void promise15() {
-        WatchBeats x = Watches.scripted();
-        beatDue("script", x, 5, 4, -2, 8);
-        x.go(1);
-        beatDue("four beats, three gaps", x, 4, 3, -1, 7);
-        x.go(1);
-        beatDue("three beats, two gaps", x, 3, 2, -2, 6);
-        x.go(1);
-        beatDue("two beats, one gap", x, 2, 1, 0, 5);
-        x.go(2);
-        beatDue("one beat, no gap", x, 1, 0, 0, 3);
-        x.go(4);
-        beatDue("no beat", x, 0, 0, 0, -500);
-        for (int what : new int[] {-1, 5, Integer.MIN_VALUE, Integer.MAX_VALUE}) {
-            Check.due("beat of no such what", x.beat(what), -1000);
-        }
-    }
-
-    private static int evenestByHand(WatchBeats x, int offsetNow) {
-        int best = 0;
-        int[] bestOf = null;
-        for (int offset = -20; offset <= 20; offset++) {
-            x.set(4, offset);
-            int[] of = {-x.beat(0), Math.abs(x.beat(2)), Math.abs(offset - offsetNow)};
-            if (bestOf == null || java.util.Arrays.compare(of, bestOf) < 0) {
-                best = offset;
-                bestOf = of;
-            }
-        }
-        x.set(4, offsetNow);
-        return best;
-    }
-
-    private static void promise15Evenest() {
-        for (int offset = -20; offset <= 20; offset += 5) {
-            for (int stiff = 1; stiff <= 32; stiff += 5) {
-                WatchBeats x = Watches.lively();
-                x.set(4, offset);
-                x.set(2, stiff);
-                Check.due("evenest", x.beat(3), evenestByHand(x, offset));
-                x.set(6, 99);
-                x.set(5, 60);
-                Check.due("evenest with a strong spring", x.beat(3), evenestByHand(x, offset));
+    private static void ticksRefused() {
+        Check.sentence("Promise 12", "-1000: n");
+        for (int n : Values.outside(0, 400)) {
+            for (int what = 0; what <= 5; what++) {
+                int asked = what;
+                Still.refused("ahead(" + n + ", " + what + ")", -1000, x -> x.ahead(n, asked));
             }
         }
     }
 
-    private static void promise15EvenestTies() {
-        WatchBeats still = Watches.idle();
-        still.set(4, -13);
-        Check.due("all alike: OFFSET as it is", still.beat(3), -13);
-        // It comes from 0 to 13 and rests there: one beat by each OFFSET from 0 to 12, of these the nearest.
-        WatchBeats x = Watches.idle();
-        x.set(5, 1);
-        x.set(1, 20);
-        x.set(3, 9);
-        x.set(4, -20);
-        Check.due("a beat only with OFFSET 0 or more", x.beat(3), 0);
-        WatchBeats pushed = Watches.idle();
-        pushed.set(4, 11);
-        pushed.push(0, 2, 3);
-        Check.due("a push makes all OFFSETS alike", pushed.beat(3), 11);
-        WatchBeats once = Watches.scripted();
-        Check.due("evenest of the script", once.beat(3), evenestByHand(once, 0));
-        Check.due("an OFFSET of 21 isn't tried", movedOnce(21, 1).beat(3), 5);
-        Check.due("an OFFSET of 20 is", movedOnce(20, 1).beat(3), 20);
-        Check.due("an OFFSET of -21 isn't tried", movedOnce(-22, 2).beat(3), 5);
-        Check.due("an OFFSET of -20 is", movedOnce(-21, 2).beat(3), -20);
-        promise15EvenestLesser();
+    private static void whatRefused() {
+        Check.sentence("Promise 12", "-1000: n, what.");
+        for (int what : Values.outside(0, 5)) {
+            Still.refused("ahead(0, " + what + ")", -1000, x -> x.ahead(0, what));
+            Still.refused("ahead(400, " + what + ")", -1000, x -> x.ahead(400, what));
+        }
     }
 
-    private static WatchBeats movedOnce(int angle, int by) {
-        WatchBeats x = Watches.idle();
-        x.set(0, angle);
-        x.set(1, by + 9);
-        x.set(3, 9);
-        x.set(4, 5);
-        x.set(5, 1);
+    private static void energyTicksRefused() {
+        Check.sentence("Promise 13", "NO.");
+        for (int n : Values.outside(0, 400)) {
+            Still.refused("energyAt(" + n + ")", WatchBeats.NO, x -> x.energyAt(n));
+        }
+    }
+
+    private static void noTickAtZero() {
+        Check.sentence("Promise 12",
+            "n TICKS on ANGLE (what 0), SPEED (1), FORCE (2), BEATS (3), BANGS (4), PALLETS (5)");
+        WatchBeats x = Watches.watch(-300, -400, 32, 9, 20, 60);
+        x.push(0, 0, 99);
+        int[] now = {-300, -400, 60, 0, 0, 0};
+        // SPEED is -301 by the PUSH, -1 by the pull, 0 by the DRAG.
+        int[] next = {-300, 0, 60, 0, 0, 0};
+        for (int what = 0; what <= 5; what++) {
+            Check.due("ahead(0, " + what + ")", x.ahead(0, what), now[what]);
+            Check.due("ahead(1, " + what + ")", x.ahead(1, what), next[what]);
+        }
+        Check.due("energyAt(0)", x.energyAt(0), 32L * 400 * 400 + 32L * 300 * 300);
+        Check.due("energyAt(1)", x.energyAt(1), 32L * 300 * 300);
+    }
+
+    private static void beyondTheClock() {
+        Check.sentence("2", "(CLOCK beyond 99999, too)");
+        WatchBeats x = Watches.atLastClock();
+        x.set(1, 1);
+        x.push(99999, 0, 4);
+        Check.due("in thought it goes on", x.ahead(1, 0), 5);
+        Check.due("and on", x.ahead(6, 0), 30);
+        Check.due("ENERGY there", x.energyAt(6), 32 * 25 + 30 * 30);
+        x.set(0, 1);
+        x.set(1, -4);
+        x.set(2, 32);
+        x.set(5, 60);
+        Check.due("400 TICKS as at any CLOCK", x.ahead(400, 0), sameAtClockZero().ahead(400, 0));
+        Check.due("BEATS as at any CLOCK", x.ahead(400, 3), sameAtClockZero().ahead(400, 3));
+        Check.due("BEATS HEARD as at any CLOCK", x.beat(4), sameAtClockZero().beat(4));
+        Check.holds("and there are such", x.beat(4) > 300);
+    }
+
+    private static WatchBeats sameAtClockZero() {
+        WatchBeats x = Watches.watch(1, -4, 32, 0, 0, 60);
+        x.push(0, 0, 4);
         return x;
     }
 
-    /** From -2 to 0, to -2, to 2, to 0, to 2: three even beats by OFFSETS -1 and 1 alone. */
-    private static void promise15EvenestLesser() {
+    private static void pushesAsTheyWait() {
+        Check.sentence("2", "PUSHES as they wait");
         WatchBeats x = Watches.idle();
-        x.set(0, -2);
-        x.set(3, 9);
-        x.set(5, 1);
-        int[] pushes = {11, -11, 13, -11, 11};
-        for (int i = 0; i < pushes.length; i++) {
-            x.push(2 * i, 0, pushes[i]);
+        x.push(3, 0, 7);
+        x.push(5, 0, -9);
+        x.push(400, 0, 7);
+        int[][] ways = {{3, 0, 0}, {4, 7, 7}, {5, 7, 14}, {6, -2, 12}, {7, -2, 10}};
+        for (int[] row : ways) {
+            Check.due("ahead(" + row[0] + ", 1)", x.ahead(row[0], 1), row[1]);
+            Check.due("ahead(" + row[0] + ", 0)", x.ahead(row[0], 0), row[2]);
         }
-        Check.due("of two as near the lesser", x.beat(3), -1);
-        x.set(4, 1);
-        beatDue("by OFFSET 1", x, 3, 2, 0, 8);
-        Check.due("of two the nearer", x.beat(3), 1);
-        x.set(4, -1);
-        beatDue("by OFFSET -1", x, 3, 2, 0, 4);
-        Check.due("of two the nearer", x.beat(3), -1);
+        Check.due("they wait still", x.told(11), 3);
+        x.go(4);
+        Check.due("two of them wait", x.ahead(1, 1), 7);
+        Check.due("the first of them", x.ahead(2, 1), -2);
+        WatchBeats y = Watches.idle();
+        y.push(399, 0, 7);
+        Check.due("399 TICKS on", y.ahead(399, 1), 0);
+        Check.due("a PUSH in the 400th TICK", y.ahead(400, 1), 7);
+        WatchBeats z = Watches.idle();
+        z.push(400, 0, 7);
+        Check.due("none in it", z.ahead(400, 1), 0);
     }
 
-    private static void promise16And17() {
-        WatchBeats x = Watches.scripted();
-        int[] gaps = {1, 1, 2, 4};
-        int[] longest = {3, 2, 0, 1};
-        for (int k = 0; k < gaps.length; k++) {
-            Check.due("gap(" + k + ")", x.gap(k), gaps[k]);
-            Check.due("longest(" + k + ", 1)", x.longest(k, 1), longest[k]);
-            Check.due("longest(" + k + ", 0)", x.longest(k, 0), gaps[longest[k]]);
+    private static void forceWearsInThought() {
+        Check.sentence("Promise 12", "FORCE (2)");
+        WatchBeats x = Watches.quick(2, 2);
+        int[][] forces = {{7, 2}, {8, 1}, {13, 1}, {14, 0}, {400, 0}};
+        for (int[] row : forces) {
+            Check.due("ahead(" + row[0] + ", 2)", x.ahead(row[0], 2), row[1]);
         }
-        for (int k : new int[] {4, 5, 400, Integer.MAX_VALUE}) {
-            Check.due("gap behind the last", x.gap(k), -5);
-            Check.due("longest behind the last", x.longest(k, 0), -5);
-            Check.due("which is longest behind the last", x.longest(k, 1), -5);
-        }
-        for (int no : NO_NUMBERS) {
-            Check.due("gap of no such k", x.gap(no), WatchBeats.NONE);
-            Check.due("longest of no such k", x.longest(no, 0), WatchBeats.NONE);
-            Check.due("longest of no such what", x.longest(0, no), WatchBeats.NONE);
-        }
-        Check.due("longest of what 2", x.longest(0, 2), WatchBeats.NONE);
-        Check.due("what goes ahead of k", x.longest(9, 2), WatchBeats.NONE);
-        Check.due("longest, the first thing asked", Watches.scripted().longest(0, 0), 4);
-        Check.due("gap, the first thing asked", Watches.scripted().gap(3), 4);
-        WatchBeats still = Watches.idle();
-        Check.due("no gap", still.gap(0), -5);
-        Check.due("no longest", still.longest(0, 1), -5);
-        longestOfMany();
+        Check.due("FORCE now", x.told(5), 2);
     }
 
-    private static void longestOfMany() {
-        WatchBeats x = Watches.lively();
-        int gaps = x.beat(1);
-        for (int k = 0; k + 1 < gaps; k++) {
-            int here = x.longest(k, 0);
-            int next = x.longest(k + 1, 0);
-            boolean ordered = here > next || here == next && x.longest(k, 1) < x.longest(k + 1, 1);
-            Check.holds("longest in order at " + k, ordered);
+    private static void bangsAndBeatsInThought() {
+        Check.sentence("Promise 12", "BEATS (3), BANGS (4), PALLETS (5)");
+        WatchBeats x = new WatchBeats();
+        x.set(1, 400);
+        int[] next = {300, 5, 20, 1, 1, 1};
+        for (int what = 0; what <= 5; what++) {
+            Check.due("ahead(1, " + what + ")", x.ahead(1, what), next[what]);
+        }
+        Check.due("energyAt(1)", x.energyAt(1), 32 * 25 + 4 * 90000);
+        x.go(1);
+        x.set(1, -400);
+        x.set(0, 0);
+        int[] behind = {-300, -5, 20, 2, 2, 0};
+        for (int what = 0; what <= 5; what++) {
+            Check.due("ahead(1, " + what + ")", x.ahead(1, what), behind[what]);
         }
     }
 
-    private static void askedChangesNothing() {
-        WatchBeats x = pushed();
-        x.see(5, 9);
-        x.book(1, 9);
-        x.tape(0, 1, 9);
-        long[] before = Watches.allOf(x);
-        x.ahead(400, 0);
-        x.energyAt(400);
-        x.heard(0);
-        for (int what = 0; what < 5; what++) {
-            x.beat(what);
+    private static void asked() {
+        Check.sentence("Answers", "what is asked changes nothing");
+        for (int n : Values.atBounds(0, 400)) {
+            Still.asked("ahead(" + n + ", 0)", x -> x.ahead(n, 0));
+            Still.asked("energyAt(" + n + ")", x -> x.energyAt(n));
         }
-        x.gap(0);
-        x.longest(0, 0);
-        x.fits(0);
-        x.odds(3, 0);
-        x.mean(0);
-        x.looked();
-        x.judge(0, 0);
-        Watches.sameDue("asked", Watches.allOf(x), before);
+        for (int k : new int[] {0, 1, 399, Integer.MAX_VALUE}) {
+            Still.asked("heard(" + k + ")", x -> x.heard(k));
+            Still.asked("gap(" + k + ")", x -> x.gap(k));
+            Still.asked("longest(" + k + ", 0)", x -> x.longest(k, 0));
+            Still.asked("longest(" + k + ", 1)", x -> x.longest(k, 1));
+            Still.asked("judge(0, " + k + ")", x -> x.judge(0, k));
+            Still.asked("peek(0, " + k + ")", x -> x.peek(0, k));
+        }
+        for (int what = 0; what <= 12; what++) {
+            int of = what;
+            Still.asked("told(" + what + ")", x -> x.told(of));
+            Still.asked("energy(" + what + ")", x -> x.energy(of));
+            Still.asked("beat(" + what + ")", x -> x.beat(of));
+            Still.asked("count(" + what + ")", x -> x.count(of));
+            Still.asked("pushOf(" + what + ", 0)", x -> x.pushOf(of, 0));
+            Still.asked("turns(" + what + ", 0)", x -> x.turns(of, 0));
+        }
+        for (int part = 0; part <= 1; part++) {
+            int of = part;
+            Still.asked("fits(" + part + ")", x -> x.fits(of));
+            Still.asked("odds(0, " + part + ")", x -> x.odds(0, of));
+            Still.asked("odds(99, " + part + ")", x -> x.odds(99, of));
+            Still.asked("mean(" + part + ")", x -> x.mean(of));
+        }
+        Still.asked("looked()", x -> x.looked());
     }
 }

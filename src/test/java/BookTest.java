@@ -1,41 +1,105 @@
-/** Promises 22 to 24 and 27: the book, what is looked at in it, rows judged, and how many there are of all. */
+/** Promises 22, 23 and 27: the book, what is looked at in it, and how many there are of what is told. */
 public final class BookTest {
     public static void main(String[] args) {
-        promise22();
-        promise23();
-        promise24();
-        promise24Refused();
-        promise27();
+        rowsTaken();
+        beatRefused();
+        ticksRefused();
+        eightRows();
+        badAheadOfFull();
+        emptyThen();
+        emptyBook();
+        firstOfThese();
+        lastRow();
+        notHeard();
+        lastBeatAndTick();
+        countsOfAll();
+        countRefused();
         Check.end();
     }
 
-    private static void promise22() {
-        WatchBeats x = new WatchBeats();
-        int[][] refused = {{-2, 0}, {100, 0}, {0, -1}, {0, 401}, {Integer.MIN_VALUE, 0}, {Integer.MAX_VALUE, 0},
-            {0, Integer.MIN_VALUE}, {0, Integer.MAX_VALUE}};
-        for (int[] row : refused) {
-            Check.due("book refused", x.book(row[0], row[1]), WatchBeats.BAD);
+    private static void rowsTaken() {
+        Check.sentence("2", "A BOOK told by hand: k (0 .. 99), n (0 .. 400; 8 rows at most)");
+        for (int k : Values.atBounds(0, 99)) {
+            for (int n : Values.atBounds(0, 400)) {
+                WatchBeats x = new WatchBeats();
+                Check.due("book(" + k + ", " + n + ")", x.book(k, n), 1);
+                Check.due("count(1)", x.count(1), 1);
+                Check.due("looked()", x.looked(), 0);
+            }
         }
-        Check.due("none came", x.count(1), 0);
-        for (int i = 0; i < 8; i++) {
-            Check.due("book", x.book(i % 2 == 0 ? 0 : 99, i % 2 == 0 ? 400 : 0), i + 1);
-        }
-        Check.due("a ninth", x.book(0, 0), WatchBeats.FULL);
-        Check.due("BAD goes ahead of FULL", x.book(100, 0), WatchBeats.BAD);
-        Check.due("eight", x.count(1), 8);
-        Check.due("empty then, whatever the rest is", x.book(-1, -7), 0);
-        Check.due("none", x.count(1), 0);
-        Check.due("the first again", x.book(1, 1), 1);
     }
 
-    private static void promise23() {
+    private static void beatRefused() {
+        Check.sentence("Promise 22", "BAD: k");
+        for (int k : Values.outside(-1, 99)) {
+            Still.refused("book(" + k + ", 0)", WatchBeats.BAD, x -> x.book(k, 0));
+            Still.refused("book(" + k + ", 401)", WatchBeats.BAD, x -> x.book(k, 401));
+        }
+    }
+
+    private static void ticksRefused() {
+        Check.sentence("Promise 22", "BAD: k, n");
+        for (int n : Values.outside(0, 400)) {
+            for (int k : Values.atBounds(0, 99)) {
+                Still.refused("book(" + k + ", " + n + ")", WatchBeats.BAD, x -> x.book(k, n));
+            }
+        }
+    }
+
+    private static void eightRows() {
+        Check.sentence("Promise 22", "FULL: 8.");
+        WatchBeats x = new WatchBeats();
+        for (int i = 1; i <= 8; i++) {
+            Check.due("book", x.book(i, i), i);
+        }
+        Check.due("a ninth", x.book(0, 0), WatchBeats.FULL);
+        Check.due("eight", x.count(1), 8);
+        for (int k : Values.atBounds(0, 99)) {
+            Still.refusedIn(Start.FULL, "book(" + k + ", 400)", WatchBeats.FULL, y -> y.book(k, 400));
+        }
+    }
+
+    private static void badAheadOfFull() {
+        Check.sentence("Promise 22", "BAD: k, n; FULL: 8.");
+        Still.refusedIn(Start.FULL, "book(100, 0)", WatchBeats.BAD, x -> x.book(100, 0));
+        Still.refusedIn(Start.FULL, "book(-2, 0)", WatchBeats.BAD, x -> x.book(-2, 0));
+        Still.refusedIn(Start.FULL, "book(0, 401)", WatchBeats.BAD, x -> x.book(0, 401));
+        Still.refusedIn(Start.FULL, "book(0, -1)", WatchBeats.BAD, x -> x.book(0, -1));
+    }
+
+    private static void emptyThen() {
+        Check.sentence("Promise 22", "(k -1: it is empty then, 0, whatever the rest is)");
+        for (int n : new int[] {0, 400, -1, 401, Integer.MIN_VALUE, Integer.MAX_VALUE}) {
+            for (Start start : Start.values()) {
+                WatchBeats x = start.watch();
+                Check.due(start + ": book(-1, " + n + ")", x.book(-1, n), 0);
+                Check.due("count(1)", x.count(1), 0);
+                Check.due("looked()", x.looked(), -5);
+                Check.due("the first again", x.book(0, 400), 1);
+                Check.due("it is looked at", x.looked(), 0);
+                Check.due("what is SEEN stays", x.count(0), start.watch().count(0));
+            }
+        }
+    }
+
+    private static void emptyBook() {
+        Check.sentence("2", "isn't n TICKS from now (-5: none)");
+        Check.due("no row", Watches.scripted().looked(), -5);
+        Check.due("no row and no BEAT", Watches.idle().looked(), -5);
         WatchBeats x = Watches.scripted();
-        Check.due("an empty book", x.looked(), -5);
+        for (int k = 0; k < 5; k++) {
+            x.book(k, Watches.SCRIPTED_BEATS[k]);
+            Check.due("all are so", x.looked(), -5);
+        }
+    }
+
+    private static void firstOfThese() {
+        Check.sentence("2", "the number (from 0) of the first of these rows for which BEAT k HEARD (from 0) isn't n "
+            + "TICKS from now");
+        WatchBeats x = Watches.scripted();
         x.book(4, 8);
         x.book(0, 0);
         x.book(2, 2);
-        Check.due("all are so", x.looked(), -5);
-        Check.due("looked, the first thing asked", booked().looked(), 1);
         x.book(3, 5);
         Check.due("the fourth isn't", x.looked(), 3);
         x.book(4, 7);
@@ -43,93 +107,71 @@ public final class BookTest {
         x.go(1);
         Check.due("all is told from now on", x.looked(), 0);
         WatchBeats y = Watches.scripted();
-        y.book(4, 8);
-        y.book(5, 8);
-        Check.due("a beat that isn't heard", y.looked(), 1);
-        WatchBeats still = Watches.idle();
-        still.book(0, 0);
-        Check.due("no beat is heard", still.looked(), 0);
+        y.book(0, 1);
+        y.book(0, 0);
+        Check.due("the first of the BOOK, so the rest is", y.looked(), 0);
     }
 
-    /** No BEAT is 0 TICKS from now, as in a row that never came. */
-    private static WatchBeats booked() {
+    private static void lastRow() {
+        Check.sentence("2", "8 rows at most): LOOKED at");
         WatchBeats x = Watches.scripted();
-        x.go(5);
-        x.book(0, 3);
-        Check.due("rows that didn't come aren't looked at", x.looked(), -5);
-        x.book(0, 4);
-        return x;
+        for (int i = 0; i < 7; i++) {
+            x.book(4, 8);
+        }
+        x.book(4, 9);
+        Check.due("the eighth isn't", x.looked(), 7);
     }
 
-    private static WatchBeats withRow(int size, int place, int... items) {
+    private static void notHeard() {
+        Check.sentence("2", "for which BEAT k HEARD (from 0) isn't n TICKS from now");
         WatchBeats x = Watches.scripted();
-        x.tape(2, 1, size);
-        for (int i = 0; i < items.length; i++) {
-            x.item(2, place + i, items[i]);
+        x.book(4, 8);
+        x.book(5, 8);
+        Check.due("a BEAT that isn't HEARD", x.looked(), 1);
+        for (int n : new int[] {0, 399, 400}) {
+            WatchBeats still = Watches.idle();
+            still.book(0, n);
+            Check.due("no BEAT is HEARD", still.looked(), 0);
         }
-        return x;
     }
 
-    private static void promise24() {
-        WatchBeats x = withRow(20, 3, 0, 1, 2, 4, 8, 77);
-        Check.due("all are so", x.judge(2, 3), -5);
-        Check.due("from another place", x.judge(2, 0), 1);
-        Check.due("from another place", x.judge(2, 4), 0);
-        x.item(2, 7, 9);
-        Check.due("the last isn't", x.judge(2, 3), 4);
-        x.item(2, 4, 65537);
-        Check.due("a short has sixteen bits", x.judge(2, 3), 4);
-        x.item(2, 4, 3);
-        Check.due("the first that isn't", x.judge(2, 3), 1);
-        WatchBeats whole = withRow(8, 3, 0, 1, 2, 4, 8);
-        Check.due("up to the very end", whole.judge(2, 3), -5);
-        WatchBeats shorter = withRow(7, 3, 0, 1, 2, 4);
-        Check.due("the row ends ahead of the last", shorter.judge(2, 3), 104);
-        Check.due("the row ends behind one that isn't", withRow(4, 2, 0, 3).judge(2, 2), 1);
-        for (int place : new int[] {7, 8, 60, Integer.MAX_VALUE, -1, Integer.MIN_VALUE}) {
-            Check.due("no place in the row", shorter.judge(2, place), 100);
-        }
-        Check.due("an empty row", withRow(0, 0).judge(2, 0), 100);
-        Check.due("nothing there", shorter.judge(1, 0), 100);
-        Check.due("nothing there, below 0", shorter.judge(1, -1), 100);
-        Check.due("nothing there, far on", shorter.judge(1, Integer.MAX_VALUE), 100);
-        shorter.go(9);
-        Check.due("no beat is heard", shorter.judge(2, 3), -5);
-        Check.due("no beat is heard, below 0", shorter.judge(2, -1), -5);
-        Check.due("no beat is heard, nothing there", shorter.judge(1, 0), -5);
+    private static void lastBeatAndTick() {
+        Check.sentence("2", "k (0 .. 99)");
+        WatchBeats x = Watches.quick(60, 99);
+        x.book(99, 301);
+        x.book(98, 298);
+        Check.due("BEATS 99 and 98", x.looked(), -5);
+        x.book(99, 302);
+        Check.due("BEAT 99 at another", x.looked(), 2);
+        WatchBeats fewer = Watches.quick(1, 99);
+        fewer.book(98, 298);
+        fewer.book(99, 301);
+        Check.due("there is no BEAT 99", fewer.looked(), 1);
+        WatchBeats late = Watches.idle();
+        late.set(5, 1);
+        late.push(399, 0, 1);
+        late.book(0, 399);
+        Check.due("in the last TICK that is HEARD", late.looked(), -5);
+        late.book(-1, 0);
+        late.book(0, 400);
+        Check.due("none is 400 from now", late.looked(), 0);
     }
 
-    private static void promise24Refused() {
-        WatchBeats x = Watches.scripted();
-        WatchBeats still = Watches.idle();
-        for (int tape : new int[] {-1, 6, Integer.MIN_VALUE, Integer.MAX_VALUE}) {
-            Check.due("judge of no such tape", x.judge(tape, 0), WatchBeats.NONE);
-            Check.due("NONE goes ahead of -5", still.judge(tape, 0), WatchBeats.NONE);
+    private static void countsOfAll() {
+        Check.sentence("Promise 27", "How many: 0 SEEN, 1 of the BOOK, 2 bytes of THE TEXT.");
+        int[][] counts = {{0, 0, 0}, {3, 3, 5}, {5, 8, 100}, {2, 2, 0}};
+        for (Start start : Start.values()) {
+            WatchBeats x = start.watch();
+            for (int what = 0; what <= 2; what++) {
+                Check.due(start + ": count(" + what + ")", x.count(what), counts[start.ordinal()][what]);
+            }
         }
-        for (int sort : new int[] {0, 2, 3, 4}) {
-            x.tape(0, sort, 9);
-            still.tape(0, sort, 9);
-            Check.due("no row of shorts", x.judge(0, 0), -12);
-            Check.due("no row of shorts, no such place", x.judge(0, -1), -12);
-            Check.due("CAST goes ahead of -5", still.judge(0, 0), -12);
-        }
-        x.tape(0, -1, 0);
-        Check.due("nothing there is no CAST", x.judge(0, 0), 100);
-        x.tape(5, 1, 60);
-        Check.due("the last tape", x.judge(5, 0), 1);
     }
 
-    private static void promise27() {
-        WatchBeats x = new WatchBeats();
-        x.see(1, 1);
-        x.book(1, 1);
-        x.book(1, 1);
-        Watches.feed(x, "a1;");
-        Check.due("seen", x.count(0), 1);
-        Check.due("booked", x.count(1), 2);
-        Check.due("bytes", x.count(2), 3);
-        for (int what : new int[] {-1, 3, Integer.MIN_VALUE, Integer.MAX_VALUE}) {
-            Check.due("count of no such what", x.count(what), WatchBeats.BAD);
+    private static void countRefused() {
+        Check.sentence("Promise 27", "BAD.");
+        for (int what : Values.outside(0, 2)) {
+            Still.refused("count(" + what + ")", WatchBeats.BAD, x -> x.count(what));
         }
     }
 }

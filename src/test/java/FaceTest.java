@@ -27,7 +27,8 @@ public final class FaceTest {
 
     private static void classDue() {
         Class<WatchBeats> face = WatchBeats.class;
-        Check.holds("public and final", Modifier.isPublic(face.getModifiers()) && Modifier.isFinal(face.getModifiers()));
+        Check.holds("public", Modifier.isPublic(face.getModifiers()));
+        Check.holds("final", Modifier.isFinal(face.getModifiers()));
         Check.due("constructors", face.getDeclaredConstructors().length, 1);
         Check.holds("without arguments", face.getConstructors().length == 1
             && face.getConstructors()[0].getParameterCount() == 0);

@@ -16,10 +16,12 @@ public final class RandomRunsTest {
     private final WatchBeats x = new WatchBeats();
     private final PlainWatch y = new PlainWatch();
     private final String run;
+    private final int edgeOfSo;
     private int calls;
 
     private RandomRunsTest(int seed) {
         random = new Random(seed);
+        edgeOfSo = seed % 4 == 3 ? 2 : 12;
         run = "run " + seed + ", ";
     }
 
@@ -41,9 +43,9 @@ public final class RandomRunsTest {
         Check.due(run + call, got, want);
     }
 
-    /** Mostly a number in its bounds, at times one of the edges. */
+    /** Mostly a number in its bounds, at times one of the edges; in every fourth run these are half of all. */
     private int near(int least, int most) {
-        return random.nextInt(12) == 0 ? EDGES[random.nextInt(EDGES.length)] : inBounds(least, most);
+        return random.nextInt(edgeOfSo) == 0 ? EDGES[random.nextInt(EDGES.length)] : inBounds(least, most);
     }
 
     private int inBounds(int least, int most) {

@@ -1,6 +1,5 @@
 /** Watches that several tests begin with, and what is asked of them in several tests. */
 final class Watches {
-    static final long NO = Long.MIN_VALUE;
     static final int TOLD = 13;
 
     private Watches() {
@@ -46,14 +45,44 @@ final class Watches {
         return x;
     }
 
-    /** A watch whose CLOCK is 99999, at rest. */
-    static WatchBeats atLastClock() {
+    /**
+     * By STIFF 32 it swings from 1 over 0 to -1 and back in 6 TICKS, more widely by each kick: a BEAT at 4, 7, 10 and
+     * so on, until so many took the last FORCE away.
+     */
+    static WatchBeats quick(int force, int life) {
+        WatchBeats x = new WatchBeats();
+        x.set(0, 1);
+        x.set(2, 32);
+        x.set(5, force);
+        x.set(6, life);
+        return x;
+    }
+
+    static WatchBeats watch(int angle, int speed, int stiff, int drag, int offset, int force) {
+        WatchBeats x = new WatchBeats();
+        x.set(0, angle);
+        x.set(1, speed);
+        x.set(2, stiff);
+        x.set(3, drag);
+        x.set(4, offset);
+        x.set(5, force);
+        return x;
+    }
+
+    /** A watch at rest whose CLOCK is there. */
+    static WatchBeats atClock(int clock) {
         WatchBeats x = idle();
-        for (int i = 0; i < 249; i++) {
+        for (int i = 0; i < clock / 400; i++) {
             x.go(400);
         }
-        x.go(399);
+        if (clock % 400 != 0) {
+            x.go(clock % 400);
+        }
         return x;
+    }
+
+    static WatchBeats atLastClock() {
+        return atClock(99999);
     }
 
     /** All that told(), energy(), pushOf() and count() tell. */
@@ -97,7 +126,7 @@ final class Watches {
 
     static void feed(WatchBeats x, String text) {
         for (int i = 0; i < text.length(); i++) {
-            Check.due("feed of sign " + i + " of " + text, x.feed(text.charAt(i)), i + 1);
+            x.feed(text.charAt(i));
         }
     }
 
