@@ -73,9 +73,9 @@ public final class OddsTest {
 
     private static void asByHand() {
         Check.sentence("2", "were SPEED -20, -16, .. 20 now (eleven)");
-        WatchBeats x = Watches.lively();
-        x.push(3, 0, 50);
         for (int n = 0; n <= 99; n += 3) {
+            WatchBeats x = Watches.lively();
+            x.push(3, 0, 50);
             int likely = 0;
             for (int tried = -20; tried <= 20; tried += 4) {
                 x.set(1, tried);
